@@ -233,7 +233,7 @@ public final class SweptBoxes {
         return (solidRows[j] >> i & 1) == 1;
     }
 
-    /** Tiles that end at or before this number are left out: they can't be overlapped from it on. */
+    /** Tiles that end at or before this number can't be overlapped from it on, and are left out. */
     private static int firstTileFrom(long low) {
         return (int) Math.max(0, Math.floorDiv(low, TILE_SIDE));
     }
@@ -243,8 +243,11 @@ public final class SweptBoxes {
     }
 
     private boolean isBlocked(long x0, long y0, long x1, long y1) {
-        for (int j = firstTileFrom(y0); j <= lastTileTo(y1); j++) {
-            for (int i = firstTileFrom(x0); i <= lastTileTo(x1); i++) {
+        int lastJ = lastTileTo(y1);
+        int firstI = firstTileFrom(x0);
+        int lastI = lastTileTo(x1);
+        for (int j = firstTileFrom(y0); j <= lastJ; j++) {
+            for (int i = firstI; i <= lastI; i++) {
                 tileBlock.putTile(i, j);
                 if (isSolid(i, j) && tileBlock.liesOverRange(x0, y0, x1, y1)) {
                     return true;
@@ -339,11 +342,11 @@ public final class SweptBoxes {
             return true;
         }
 
-        /** Two single points have no edges: only the axes tell those apart. */
+        /** The axes settle it for shapes on one line, where no gap shows across an edge. */
         boolean isApartFrom(Hull other) {
             return size == 0 || other.size == 0
                     || hasGap(other, 1, 0) || hasGap(other, 0, 1)
-                    || hasGapByEdges(other) || other.hasGapByEdges(this);
+                    || hasGapAcrossEdge(other) || other.hasGapAcrossEdge(this);
         }
 
         /** The range settles it for one corner or two, where the edges leave a whole line. */
@@ -418,18 +421,18 @@ public final class SweptBoxes {
             return ax * by - ay * bx;
         }
 
-        /** A line along some edge parts what is apart; but on one line a gap shows only across it. */
-        private boolean hasGapByEdges(Hull other) {
+        private boolean hasGapAcrossEdge(Hull other) {
             for (int k = 0; k < size; k++) {
                 long dx = xs[after(k)] - xs[k];
                 long dy = ys[after(k)] - ys[k];
-                if (hasGap(other, dx, dy) || hasGap(other, -dy, dx)) {
+                if (hasGap(other, -dy, dx)) {
                     return true;
                 }
             }
             return false;
         }
 
+        /** Whether all of one comes before all of the other, seen in this direction. */
         private boolean hasGap(Hull other, long dx, long dy) {
             return farthest(dx, dy) < -other.farthest(-dx, -dy)
                     || other.farthest(dx, dy) < -farthest(-dx, -dy);

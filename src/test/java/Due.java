@@ -1,3 +1,4 @@
+import java.util.function.BooleanSupplier;
 import java.util.function.LongSupplier;
 
 /** Counts and prints every answer that is not the one that is due. */
@@ -17,11 +18,11 @@ final class Due {
         }
     }
 
-    void yes(String call, java.util.function.BooleanSupplier asked) {
+    void yes(String call, BooleanSupplier asked) {
         answer(call, 1, () -> asked.getAsBoolean() ? 1 : 0);
     }
 
-    void no(String call, java.util.function.BooleanSupplier asked) {
+    void no(String call, BooleanSupplier asked) {
         answer(call, 0, () -> asked.getAsBoolean() ? 1 : 0);
     }
 
@@ -47,6 +48,10 @@ final class Due {
 
     void noArgument(String call, Runnable asked) {
         refusal(call, IllegalArgumentException.class, asked);
+    }
+
+    int calls() {
+        return calls;
     }
 
     private void tell(String text) {

@@ -1,5 +1,4 @@
 import java.lang.reflect.Constructor;
-import java.lang.reflect.Executable;
 import java.lang.reflect.Field;
 import java.lang.reflect.Member;
 import java.lang.reflect.Method;
@@ -75,11 +74,7 @@ public final class FaceTest {
     private static String told(Method m) {
         String thrown = types(m.getExceptionTypes());
         return m.getReturnType().getSimpleName() + " " + m.getName() + "("
-                + types(parameters(m)) + ")" + (thrown.isEmpty() ? "" : " throws " + thrown);
-    }
-
-    private static Class<?>[] parameters(Executable e) {
-        return e.getParameterTypes();
+                + types(m.getParameterTypes()) + ")" + (thrown.isEmpty() ? "" : " throws " + thrown);
     }
 
     private static String types(Class<?>[] types) {

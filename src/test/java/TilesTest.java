@@ -45,12 +45,10 @@ public final class TilesTest {
         due.noIndex("no shapes", () -> x.corners(0));
         due.noIndex("no boxes", () -> x.move(0, 0, 0));
         due.noIndex("no sweeps", () -> x.sweep(0, 0));
-        for (int j = 0; j < 24; j++) {
-            for (int i = 0; i < 24; i++) {
-                int column = i;
-                int row = j;
-                due.no("not solid: " + i + ", " + j, () -> x.tile(column, row, false));
-            }
+        for (int n = 0; n < 24; n++) {
+            int i = n;
+            int j = (n + 8) % 24;
+            due.no("not solid: " + i + ", " + j, () -> x.tile(i, j, false));
         }
         due.answer("first shape", 0, x::shape);
         due.answer("without points", 0, () -> x.corners(0));
@@ -61,6 +59,18 @@ public final class TilesTest {
 
     private static void newObject() {
         isAsAtFirst(new SweptBoxes());
+        // an object is for 512 calls, and there are more tiles
+        noneIsSolid(0, 12);
+        noneIsSolid(12, 24);
+    }
+
+    private static void noneIsSolid(int fromRow, int toRow) {
+        SweptBoxes x = new SweptBoxes();
+        for (int n = 24 * fromRow; n < 24 * toRow; n++) {
+            int i = n % 24;
+            int j = n / 24;
+            due.no("not solid: " + i + ", " + j, () -> x.tile(i, j, false));
+        }
     }
 
     private static void tiles() {
