@@ -38,6 +38,10 @@ final class Due {
         }
     }
 
+    void truth(String call, boolean want, BooleanSupplier asked) {
+        answer(call, want ? 1 : 0, () -> asked.getAsBoolean() ? 1 : 0);
+    }
+
     void noIndex(String call, Runnable asked) {
         refusal(call, IndexOutOfBoundsException.class, asked);
     }
@@ -54,7 +58,11 @@ final class Due {
         return calls;
     }
 
-    private void tell(String text) {
+    int wrong() {
+        return wrong;
+    }
+
+    void tell(String text) {
         wrong++;
         if (wrong <= 50) {
             System.out.println(text);
