@@ -133,6 +133,9 @@ public final class ShapeSentencesTest {
             for (long[] beside : new long[][] {{-3, -3}, {3, -3}, {3, 3}, {-3, 3}}) {
                 areApart(due, "a point beside a slanted edge", true, row(-4, 0, 0, -4, 4, 0, 0, 4), beside);
             }
+            for (long[] beside : new long[][] {{4, 4}, {5, 4}, {1, 8}, {8, 1}}) {
+                areApart(due, "a point beside the first edge, slanted", true, row(0, 10, 10, 0, 10, 10), beside);
+            }
             areApart(due, "one within the other", false, triangle, row(1, 1, 2, 1, 1, 2));
             areApart(due, "a bar across, no corner in the other", false, triangle, row(-1, 3, 11, 3, 11, 4, -1, 4));
             areApart(due, "segments in one line with a gap", true, row(0, 0, 2, 1), row(4, 2, 6, 3));

@@ -252,13 +252,16 @@ public final class StepSentencesTest {
         }
         SweptBoxes x = playerAt(-100, -100, side, isAndJs);
         int stops = 0;
+        long[] place = {-100, -100};
         for (int n = 0; n < 100; n++) {
             // to somewhere among the tiles or near them, another place each time
             long toX = n * 37 % 401 - 10;
             long toY = n * 53 % 397 - 10;
-            x.step(toX - x.at(0), toY - x.at(1), 1 + n % 3);
+            x.step(toX - place[0], toY - place[1], 1 + n % 3);
             long px = x.at(0);
             long py = x.at(1);
+            place[0] = px;
+            place[1] = py;
             stops += px != toX || py != toY ? 1 : 0;
             for (int m = 0; m < 60; m++) {
                 int i = isAndJs[2 * m];
